@@ -1,0 +1,86 @@
+import java.util.NoSuchElementException;
+
+/** What the project's tests share: counting wrong answers, and feeding a text to an object. */
+final class Checks {
+    /** Stands for the answer of a call that throws NoSuchElementException. */
+    static final long THROWS = Long.MIN_VALUE;
+
+    private static final int SHOWN_MOST = 40;
+
+    private int wrong = 0;
+    private int asked = 0;
+
+    interface Call {
+        long answer();
+    }
+
+    static long answerOf(Call call) {
+        try {
+            return call.answer();
+        } catch (NoSuchElementException e) {
+            return e.getClass() == NoSuchElementException.class ? THROWS : THROWS + 1;
+        }
+    }
+
+    void due(String what, long want, Call call) {
+        due(what, want, answerOf(call));
+    }
+
+    void due(String what, long want, boolean got) {
+        due(what, want, got ? 1 : 0);
+    }
+
+    void due(String what, long want, long got) {
+        asked++;
+        if (got != want) {
+            wrong++;
+            if (wrong <= SHOWN_MOST) {
+                System.out.println(what + " answered " + told(got) + ", due is " + told(want));
+            }
+        }
+    }
+
+    boolean allGood() {
+        return wrong == 0;
+    }
+
+    void finish() {
+        System.out.println(asked + " answers, " + wrong + " of them wrong");
+        if (wrong != 0) {
+            System.exit(1);
+        }
+    }
+
+    private static String told(long answer) {
+        return answer == THROWS ? "NoSuchElementException" : Long.toString(answer);
+    }
+
+    /** Feeds a text in twenties and cuts the tape behind its last byte. */
+    static boolean feed(RepeatIndex x, String text) {
+        int had = x.now(6);
+        for (int from = 0; from < text.length(); from += 20) {
+            int[] numbers = numbersOf(text, from);
+            if (x.feed(numbers[0], numbers[1], numbers[2], numbers[3], numbers[4]) == RepeatIndex.NONE) {
+                return false;
+            }
+        }
+        return x.end(had + text.length());
+    }
+
+    static int[] numbersOf(String text, int from) {
+        int[] numbers = new int[5];
+        for (int place = 0; place < 20; place++) {
+            int sign = from + place < text.length() ? text.charAt(from + place) & 255 : 0;
+            numbers[place / 4] = numbers[place / 4] << 8 | sign;
+        }
+        return numbers;
+    }
+
+    static RepeatIndex of(String text) {
+        RepeatIndex x = new RepeatIndex();
+        if (!feed(x, text) || x.text() < 0) {
+            throw new IllegalArgumentException("a test's text is no TEXT: " + text);
+        }
+        return x;
+    }
+}
