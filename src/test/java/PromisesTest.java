@@ -96,6 +96,12 @@ public final class PromisesTest {
         due("feed two texts", 1, () -> Checks.feed(x, "months ") && Checks.feed(x, "3;home;") ? 1 : 0);
         due("text of both", 2, () -> x.text());
         due("months of both", 3, () -> x.now(0));
+        Checks.feed(x, "months 2;home;");
+        due("end within a word", 1, () -> x.end(12) ? 1 : 0);
+        due("bytes behind the end are none of the text's", -10, () -> x.text());
+        Checks.feed(x, "months 222;");
+        due("end within a number", 1, () -> x.end(8) ? 1 : 0);
+        due("the number is cut", 2, () -> Checks.feed(x, ";home;") ? x.text() : 0);
     }
 
     private static void texts() {
@@ -213,6 +219,8 @@ public final class PromisesTest {
         dueText(text + blanks.substring(0, 487), -501, 1);
         dueText(blanks.substring(0, 500), -501, 1);
         dueText(blanks, -501, 1);
+        dueText(blanks.substring(0, 499) + "m".repeat(41), -500, 1);
+        dueText("7".repeat(540), -1, 1);
         dueText(blanks.substring(0, 491) + "months 2;", 1, 0);
         dueText(blanks.substring(0, 492) + "months 2;", -501, 1);
         dueText(blanks.substring(0, 492) + "months 1;", -500, 2);
