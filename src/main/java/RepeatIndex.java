@@ -307,7 +307,7 @@ public final class RepeatIndex {
         }
 
         boolean canTake(int home, int month, int level) {
-            return hasHome(home) && hasMonth(month) && levelAt(home, month) == NONE
+            return hasHome(home) && hasMonth(month) && levels[home * MONTHS_MOST + month] == NONE
                 && level >= 0 && level <= LEVEL_MOST;
         }
 
@@ -720,7 +720,21 @@ public final class RepeatIndex {
             if (due == DUE_SEMICOLON) {
                 return takeSemicolon();
             }
-            return kind == NUMBER ? takeNumber() : CANNOT_COME;
+            if (kind != NUMBER) {
+                return CANNOT_COME;
+            }
+            switch (due) {
+                case DUE_MONTHS:
+                    return takeMonths();
+                case DUE_GAP:
+                    return takeGap();
+                case DUE_WEIGHT:
+                    return takeWeight();
+                case DUE_MONTH:
+                    return takeMonth();
+                default:
+                    return takeLevel();
+            }
         }
 
         private int takeWord() {
@@ -754,21 +768,6 @@ public final class RepeatIndex {
             }
             lines++;
             return goOn(DUE_WORD);
-        }
-
-        private int takeNumber() {
-            switch (due) {
-                case DUE_MONTHS:
-                    return takeMonths();
-                case DUE_GAP:
-                    return takeGap();
-                case DUE_WEIGHT:
-                    return takeWeight();
-                case DUE_MONTH:
-                    return takeMonth();
-                default:
-                    return takeLevel();
-            }
         }
 
         private int takeMonths() {

@@ -9,6 +9,7 @@ final class Checks {
 
     private int wrong = 0;
     private int asked = 0;
+    private String sentence = "";
 
     interface Call {
         long answer();
@@ -20,6 +21,11 @@ final class Checks {
         } catch (NoSuchElementException e) {
             return e.getClass() == NoSuchElementException.class ? THROWS : THROWS + 1;
         }
+    }
+
+    /** The words of the document that the checks from here on are of. */
+    void sentence(String words) {
+        sentence = "\"" + words + "\": ";
     }
 
     void due(String what, long want, Call call) {
@@ -35,7 +41,7 @@ final class Checks {
         if (got != want) {
             wrong++;
             if (wrong <= SHOWN_MOST) {
-                System.out.println(what + " answered " + told(got) + ", due is " + told(want));
+                System.out.println(sentence + what + " answered " + told(got) + ", due is " + told(want));
             }
         }
     }
@@ -53,6 +59,20 @@ final class Checks {
 
     private static String told(long answer) {
         return answer == THROWS ? "NoSuchElementException" : Long.toString(answer);
+    }
+
+    /** A text on the tape of a new object: what text() and fault() answer; the tape is empty then. */
+    void dueText(String text, int want, int fault) {
+        RepeatIndex x = new RepeatIndex();
+        due("feed of " + text, 1, feed(x, text));
+        due("text of " + text, want, x.text());
+        due("fault of " + text, fault, x.fault());
+        due("tape behind " + text, 0, x.now(6));
+    }
+
+    /** A text that is none, by a FAULT of a kind at a place. */
+    void dueFault(String text, int place, int fault) {
+        dueText(text, -1 - place, fault);
     }
 
     /** Feeds a text in twenties and cuts the tape behind its last byte. */

@@ -39,11 +39,7 @@ public final class PromisesTest {
     }
 
     private static void dueText(String text, int want, int fault) {
-        RepeatIndex x = new RepeatIndex();
-        due("feed of " + text, 1, () -> Checks.feed(x, text) ? 1 : 0);
-        due("text " + text, want, () -> x.text());
-        due("fault of " + text, fault, () -> x.fault());
-        due("tape behind " + text, 0, () -> x.now(6));
+        CHECKS.dueText(text, want, fault);
     }
 
     private static void newObject() {

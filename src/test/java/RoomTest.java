@@ -29,7 +29,7 @@ public final class RoomTest {
 
     private static long useAll(RepeatIndex x) {
         long sum = 0;
-        for (int turn = 0; turn < 20; turn++) {
+        for (int turn = 0; turn < 18; turn++) {
             for (int from = 0; from < TEXT.length(); from += 20) {
                 sum += feedTwenty(x, from);
             }
