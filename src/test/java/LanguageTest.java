@@ -5,7 +5,9 @@ import java.lang.reflect.Method;
 import java.lang.reflect.Modifier;
 import java.nio.file.Files;
 import java.nio.file.Path;
+import java.util.Map;
 import java.util.Set;
+import java.util.TreeMap;
 import java.util.TreeSet;
 import java.util.regex.Matcher;
 import java.util.regex.Pattern;
@@ -18,6 +20,8 @@ public final class LanguageTest {
         "\\bvar\\b", "\\bnew\\s+\\w+Exception\\((?!\\))", "\\bequals\\b", "\\bhashCode\\b", "\\btoString\\b",
         "\\bdouble\\b", "\\bfloat\\b", "^import (?!java\\.util\\.NoSuchElementException;)", "[^\\x00-\\x7f]",
     };
+    private static final int MOST_LINES = 60;
+    private static final int MOST_DEEP = 8;
     private static final Checks CHECKS = new Checks();
 
     public static void main(String[] args) throws IOException {
@@ -36,7 +40,45 @@ public final class LanguageTest {
             statics(inside);
         }
         statics(RepeatIndex.class);
+        methods(code);
         CHECKS.finish();
+    }
+
+    /** Rule 11: methods stay short, and calls go at most eight deep; a method is known by its name alone. */
+    private static void methods(String code) {
+        Map<String, String> bodies = new TreeMap<>();
+        Matcher head = Pattern.compile("^ {4,8}(?!new |if |else |for |while |switch |return )[\\w \\[\\]]*?(\\w+)\\([^;{]*\\{",
+            Pattern.MULTILINE).matcher(code);
+        while (head.find()) {
+            String body = code.substring(head.end(), endOfBlock(code, head.end()));
+            CHECKS.due("lines of " + head.group(1) + " are many", 0, body.split("\n").length > MOST_LINES);
+            CHECKS.due("two methods of one name: " + head.group(1), 0, bodies.put(head.group(1), body) != null);
+        }
+        CHECKS.due("methods of the face are found", 1, bodies.keySet().containsAll(face()));
+        for (String name : bodies.keySet()) {
+            CHECKS.due("calls from " + name + " go too deep", 0, depth(name, bodies, 1) > MOST_DEEP);
+        }
+    }
+
+    private static int endOfBlock(String code, int from) {
+        int open = 1;
+        int at = from;
+        while (open > 0) {
+            open += code.charAt(at) == '{' ? 1 : code.charAt(at) == '}' ? -1 : 0;
+            at++;
+        }
+        return at;
+    }
+
+    private static int depth(String name, Map<String, String> bodies, int above) {
+        int deepest = above;
+        Matcher call = Pattern.compile("(\\w+)\\(").matcher(bodies.get(name));
+        while (call.find() && deepest <= MOST_DEEP) {
+            if (bodies.containsKey(call.group(1))) {
+                deepest = Math.max(deepest, depth(call.group(1), bodies, above + 1));
+            }
+        }
+        return deepest;
     }
 
     private static Set<String> face() {
