@@ -6,6 +6,7 @@ final class Checks {
     static final long THROWS = Long.MIN_VALUE;
 
     private static final int SHOWN_MOST = 40;
+    private static final long MILLIS_MOST = 600_000;
 
     private int wrong = 0;
     private int asked = 0;
@@ -13,6 +14,23 @@ final class Checks {
 
     interface Call {
         long answer();
+    }
+
+    Checks() {
+        Thread watch = new Thread(Checks::stopLate);
+        watch.setDaemon(true);
+        watch.start();
+    }
+
+    /** A call that does not end makes its test fail; without this it would make it stand still. */
+    private static void stopLate() {
+        try {
+            Thread.sleep(MILLIS_MOST);
+        } catch (InterruptedException e) {
+            return;
+        }
+        System.out.println("a call did not end in " + MILLIS_MOST / 1000 + " seconds");
+        Runtime.getRuntime().halt(1);
     }
 
     static long answerOf(Call call) {
